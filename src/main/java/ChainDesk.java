@@ -133,16 +133,15 @@ public final class ChainDesk {
         return (simplex & part) == part;
     }
 
-    private static int dimensionOf(int simplex) {
+    private boolean isHeldOfDimension(int simplex, int k) {
+        if (simplex < 1 || simplex >= SIMPLICES_END || !held[simplex]) {
+            return false;
+        }
         int points = 0;
         for (int x = 0; x < POINTS; x++) {
             points += simplex >> x & 1;
         }
-        return points - 1;
-    }
-
-    private boolean isHeldOfDimension(int simplex, int k) {
-        return isSimplex(simplex) && held[simplex] && dimensionOf(simplex) == k;
+        return points == k + 1;
     }
 
     private int heldOfDimension(int k) {
