@@ -249,6 +249,26 @@ public final class ChainDeskPromisesTest {
         dueRefused(holding(31), 4, 2);
     }
 
+    /** The example in README.md, call by call: an answer that changes here is to change there. */
+    private static void readmeExample() {
+        ChainDesk desk = new ChainDesk();
+        due("README: add(7)", desk.add(7), 7);
+        due("README: count(1)", desk.count(1), 3);
+        due("README: simplex(1, 2)", desk.simplex(1, 2), 6);
+        due("README: boundary(2, 1)", desk.boundary(2, 1), 7);
+        due("README: filled(1, 7)", desk.filled(1, 7), 1);
+        due("README: filling(1, 7)", desk.filling(1, 7), 1);
+        due("README: least(1, 4)", desk.least(1, 4), 3);
+        due("README: holes(1)", desk.holes(1), 0);
+        due("README: remove(7)", desk.remove(7), 1);
+        due("README: holes(1) without the triangle", desk.holes(1), 1);
+        due("README: filled(1, 7) without the triangle", desk.filled(1, 7), 0);
+        due("README: filling(1, 7) without the triangle", desk.filling(1, 7), -2);
+        due("README: least(1, 4) without the triangle", desk.least(1, 4), 4);
+        due("README: alternating()", desk.alternating(), 0);
+        due("README: holes(5)", desk.holes(5), -1);
+    }
+
     public static void main(String[] args) {
         newObject();
         add();
@@ -262,6 +282,7 @@ public final class ChainDeskPromisesTest {
         least();
         alternating();
         refused();
+        readmeExample();
         System.out.println(wrong == 0 ? "all answers are as due" : wrong + " answers are not as due");
         if (wrong != 0) {
             System.exit(1);
